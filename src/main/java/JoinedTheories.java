@@ -783,13 +783,11 @@ public final class JoinedTheories {
         }
 
         void run() {
-            rounds = 0;
-            conflict = false;
             joinByEqualities();
             boolean another = true;
-            // Each round but the last one joins two classes at least.
-            while (another && rounds < TERMS) {
-                rounds++;
+            // Each round but the last one joins two classes at least, so there are no more rounds than terms.
+            for (int round = 1; round <= TERMS && another; round++) {
+                rounds = round;
                 joinByCongruence();
                 if (!measure()) {
                     conflict = true;
@@ -1081,7 +1079,7 @@ public final class JoinedTheories {
                 return;
             }
             Distances here = levels[level];
-            if (!isBetter(here) || !takeForcedOptions(here) || !isBetter(here)) {
+            if (!demandsMore(here) || !takeForcedOptions(here)) {
                 return;
             }
             int split = narrowestClause(here);
@@ -1101,8 +1099,12 @@ public final class JoinedTheories {
             }
         }
 
-        private boolean isBetter(Distances here) {
-            return !found || here.between(goalLeft, goalRight) > greatest();
+        /** Demands a greater difference than that of the best solutions so far; false if there can be none. */
+        private boolean demandsMore(Distances here) {
+            if (!found) {
+                return true;
+            }
+            return greatest() != Distances.NO_PATH && here.bound(goalRight, goalLeft, -greatest() - 1);
         }
 
         /** Meets the clauses that can be met in one way only; false if one cannot be met. */
