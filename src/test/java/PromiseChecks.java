@@ -194,6 +194,23 @@ public final class PromiseChecks {
         due("drop(0) of none", x.drop(0), UNKNOWN);
         due("count(1) without literals", x.count(1), 5);
         due("count(4)", x.count(4), 4);
+        droppingWithBothArguments();
+    }
+
+    private static void droppingWithBothArguments() {
+        JoinedTheories x = with("f(e)=e", "g(f(a),f(b))=g(a,f(a))");
+        due("count(1) before", x.count(1), 10);
+        due("drop(0)", x.drop(0), 1);
+        int[][] want = {{1, 0, NONE}, {1, 1, NONE}, {2, 5, 6}, {2, 0, 5}};
+        for (int t = 5; t < 9; t++) {
+            for (int what = 0; what < 3; what++) {
+                due("term(" + t + "," + what + ") after drop(0)", x.term(t, what), want[t - 5][what]);
+            }
+        }
+        due("literal(0,1) after drop(0)", x.literal(0, 1), 7);
+        due("literal(0,2) after drop(0)", x.literal(0, 2), 8);
+        due("term(7,3) after drop(0)", x.term(7, 3), 12);
+        due("count(1) after drop(0)", x.count(1), 9);
     }
 
     private static void scaling() {
@@ -224,6 +241,20 @@ public final class PromiseChecks {
         due("apart(0,1) at the limit", edge.apart(0, 1), -2000000000);
         due("far(0,1) at the limit", edge.far(0, 1), -2000000000);
         due("scale(0) of no literals", new JoinedTheories().scale(0), 0);
+        JoinedTheories first = with("a<b+3000", "a<b+2");
+        due("scale(1000)", first.scale(1000), 2);
+        dueError(first, first.digest(), "scale(1000), too much for literal 0 only", first.scale(1000), GREAT);
+        JoinedTheories known = with("a<b-1", "b<a", "c<d-1", "d<c+2", "c<e", "e<d");
+        due("holds() before scale(0)", known.holds(), 0);
+        due("exchange(0) before scale(0)", known.exchange(0), 1);
+        due("scale(0)", known.scale(0), 3);
+        due("holds() after scale(0)", known.holds(), 1);
+        due("exchange(0) after scale(0)", known.exchange(0), 0);
+        due("exchange(2) after scale(0)", known.exchange(2), 2);
+        JoinedTheories pairs = with("a<b-1", "b<a+1", "a<c", "c<b");
+        due("either(0) before scale(2)", pairs.either(0), 2);
+        due("scale(2)", pairs.scale(2), 2);
+        due("either(0) after scale(2)", pairs.either(0), NONE);
     }
 
     private static void literalProperties() {
@@ -293,6 +324,8 @@ public final class PromiseChecks {
         exchangeIs(new String[] {"f(a)=a", "f(f(f(a)))#a"}, 1, 1, 5);
         exchangeIs(new String[] {"a<b", "b<a", "f(a)=c", "f(b)=d", "d<e", "e<c", "f(d)#f(e)"}, 1, 3, 3);
         exchangeIs(new String[] {"a#b", "b#c", "a#c", "a<b+1", "b<a+1", "b<c+1", "c<b+1", "a<c+1", "c<a+1"}, 0, 1, 5);
+        exchangeIs(new String[] {"f(c)#f(d)", "c=f(a)", "d=f(b)", "a=b"}, 1, 1, 4);
+        exchangeIs(new String[] {"g(c,a)#g(d,b)", "c=f(a)", "d=f(b)", "a<b", "b<a"}, 1, 2, 4);
         JoinedTheories x = with("c<b", "b<c", "e=c");
         due("term(4,4)", x.term(4, 4), 1);
         due("term(2,4)", x.term(2, 4), 1);
@@ -373,6 +406,14 @@ public final class PromiseChecks {
         due("apart(0,1) of an inequality", both.apart(0, 1), 5);
         due("apart(1,0) of an inequality", both.apart(1, 0), 5);
         due("apart(5,6)", both.apart(5, 6), NONE);
+        JoinedTheories function = with("a=b", "f(a)<f(b)");
+        due("apart(5,6) of equal arguments", function.apart(5, 6), 0);
+        due("apart(6,5) of equal arguments", function.apart(6, 5), 0);
+        String[][] arguments = {{"g(a,b)#g(a,c)", "b<c"}, {"g(a,c)#g(a,b)", "b<c"}, {"g(b,a)#g(c,a)", "b<c"}, {"f(c)#f(b)", "b<c"}};
+        for (String[] texts : arguments) {
+            due("apart(1,2) of " + String.join(" ", texts), with(texts).apart(1, 2), -1);
+            due("apart(2,1) of " + String.join(" ", texts), with(texts).apart(2, 1), NONE);
+        }
         JoinedTheories holes = with("a<b", "b#a", "c#b", "c<b", "b<c+1", "a<c", "c#a");
         due("apart(0,1) with holes", holes.apart(0, 1), -2);
         due("apart(1,0) with holes", holes.apart(1, 0), NONE);
@@ -385,6 +426,15 @@ public final class PromiseChecks {
             {0, 4, 0, 0}, {0, 4, 1, 1}, {0, 4, 2, 0}, {4, 4, 0, 1}, {4, 4, 1, 0}, {4, 4, 2, 1}, {1, 4, 1, 0}, {5, 3, 0, 1}};
         for (int[] c : cases) {
             due("implied(" + c[0] + "," + c[1] + "," + c[2] + ")", x.implied(c[0], c[1], c[2]), c[3]);
+        }
+        for (String text : new String[] {"f(a)<f(b)", "f(b)<f(a)", "g(a,c)<g(b,c)", "g(c,b)<g(c,a)", "f(a)<f(b)+1"}) {
+            due("implied(0,1,1) of " + text, with(text).implied(0, 1, 1), 0);
+            due("implied(0,1,0) of " + text, with(text).implied(0, 1, 0), 0);
+        }
+        for (String text : new String[] {"f(a)#f(b)", "f(b)<f(a)-1", "g(a,c)#g(b,c)", "g(c,b)<g(c,a)-1"}) {
+            due("implied(0,1,1) of " + text, with(text).implied(0, 1, 1), 1);
+            due("implied(1,0,1) of " + text, with(text).implied(1, 0, 1), 1);
+            due("implied(0,1,2) of " + text, with(text).implied(0, 1, 2), 0);
         }
         for (int n : new int[] {LEAST, -1, 7, MOST}) {
             due("implied(" + n + ",0,0)", x.implied(n, 0, 0), UNKNOWN);
@@ -424,6 +474,8 @@ public final class PromiseChecks {
         eitherIs(NONE, NONE, "a=b", "c=d");
         eitherIs(STATE, STATE, "a=b", "b#a");
         eitherIs(2, 12, "a<b-1", "b<a+1", "a<c", "c<b");
+        eitherIs(1, 2, "b<c-1", "c<b+1", "b<a", "a<c");
+        eitherIs(24, 34, "c<d-1", "d<c+1", "c<e", "e<d");
         eitherIs(13, 23, "b<c-1", "c<b+1", "b<d", "d<c");
         eitherIs(4, 14, "a<e", "e<b", "b<a+1");
         eitherIs(2, 4, "a<c+1", "c<a", "a<e+1", "e<a", "c#e");

@@ -431,9 +431,14 @@ public final class RandomRuns {
         return "g(" + randomTerm(depth - 1, names) + "," + randomTerm(depth - 1, names) + ")";
     }
 
-    private static String randomLiteral(int depth, int names, int mix) {
-        String left = randomTerm(depth, names);
-        String right = randomTerm(depth, names);
+    /** A term that the literals have already, or a new one: few terms in many literals bear on each other. */
+    private static String knownTerm(List<String> known, int depth, int names) {
+        return !known.isEmpty() && pick(2) == 0 ? known.get(known.size() - 1 - pick(Math.min(4, known.size()))) : randomTerm(depth, names);
+    }
+
+    private static String randomLiteral(List<String> known, int depth, int names, int mix) {
+        String left = knownTerm(known, depth, names);
+        String right = knownTerm(known, depth, names);
         int sort = pick(10);
         if (sort < 2) {
             return left + (pick(3) == 0 ? "=" : "#") + right;
@@ -604,7 +609,7 @@ public final class RandomRuns {
         int literals = given.isEmpty() ? 1 + pick(10) : given.size() + pick(11 - given.size());
         String page = "";
         for (int tries = 0; tries < 30 && r.lefts.size() < literals; tries++) {
-            String text = tries < given.size() ? given.get(tries) : randomLiteral(depth, names, mix);
+            String text = tries < given.size() ? given.get(tries) : randomLiteral(r.terms, depth, names, mix);
             if (text.length() > 40) {
                 continue;
             }
