@@ -892,6 +892,7 @@ public final class JoinedTheories {
      * equal values. An inequality is a clause with a first pair only.
      */
     private static final class Clause {
+        static final int FIRST_LESS = 0, FIRST_GREATER = 1, SECOND_LESS = 2, SECOND_GREATER = 3, RESULTS_EQUAL = 4;
         static final int OPTIONS = 5;
         static final int MET = -1;
 
@@ -938,7 +939,10 @@ public final class JoinedTheories {
             if (firstUp < 0 || firstDown < 0 || secondUp < 0 || secondDown < 0) {
                 return MET;
             }
-            int open = (firstDown > 0 ? 1 : 0) | (firstUp > 0 ? 2 : 0) | (secondDown > 0 ? 4 : 0) | (secondUp > 0 ? 8 : 0);
+            int open = firstDown > 0 ? 1 << FIRST_LESS : 0;
+            open |= firstUp > 0 ? 1 << FIRST_GREATER : 0;
+            open |= secondDown > 0 ? 1 << SECOND_LESS : 0;
+            open |= secondUp > 0 ? 1 << SECOND_GREATER : 0;
             if (!hasResult) {
                 return open;
             }
@@ -947,19 +951,19 @@ public final class JoinedTheories {
             if (resultUp == 0 && resultDown == 0) {
                 return MET;
             }
-            return resultUp >= 0 && resultDown >= 0 ? open | 16 : open;
+            return resultUp >= 0 && resultDown >= 0 ? open | 1 << RESULTS_EQUAL : open;
         }
 
         /** Takes one of the ways to meet the clause; false if it contradicts the distances. */
         boolean take(Distances d, int option) {
             switch (option) {
-                case 0:
+                case FIRST_LESS:
                     return d.bound(firstLeft, firstRight, -1);
-                case 1:
+                case FIRST_GREATER:
                     return d.bound(firstRight, firstLeft, -1);
-                case 2:
+                case SECOND_LESS:
                     return d.bound(secondLeft, secondRight, -1);
-                case 3:
+                case SECOND_GREATER:
                     return d.bound(secondRight, secondLeft, -1);
                 default:
                     return d.bound(resultLeft, resultRight, 0) && d.bound(resultRight, resultLeft, 0);
@@ -1118,8 +1122,7 @@ public final class JoinedTheories {
                         return false;
                     }
                     for (int option = 0; option < Clause.OPTIONS; option++) {
-                        if (open == 1 << option) {
-                            clauses[k].take(here, option);
+                        if (open == 1 << option && clauses[k].take(here, option)) {
                             changed = true;
                         }
                     }

@@ -8,7 +8,7 @@ import java.util.Map;
  * literals as texts and finds solutions by going through all orders of the terms, equal values included.
  */
 public final class RandomRuns {
-    private static final int NONE = -2000000001, UNKNOWN = -2000000002, OUTSIDE = -2000000003, STATE = -2000000004, FULL = -2000000005, GREAT = -2000000006;
+    private static final int NONE = -2000000001, STATE = -2000000004, FULL = -2000000005, GREAT = -2000000006;
     private static final long FAR = Long.MAX_VALUE / 8;
 
     private static int wrong = 0;
@@ -42,7 +42,6 @@ public final class RandomRuns {
 
         boolean found;
         long[][] greatest;
-        int equalPairsInAll;
         List<Integer> equalMasks = new ArrayList<>();
         boolean[][][] always;
 
@@ -476,12 +475,11 @@ public final class RandomRuns {
         return literals;
     }
 
-    private static int write(JoinedTheories x, String text) {
+    private static void write(JoinedTheories x, String text) {
         x.blank();
         for (int i = 0; i < text.length(); i++) {
             x.letter(text.charAt(i));
         }
-        return x.add();
     }
 
     private static List<String> texts(Reference r) {
@@ -617,7 +615,8 @@ public final class RandomRuns {
             boolean fits = r.terms.size() <= mostTerms;
             if (fits || r.terms.size() > 10) {
                 page = fits ? "" : text;
-                due(run, texts(r), "add()", write(x, text), fits ? r.lefts.size() - 1 : FULL);
+                write(x, text);
+                due(run, texts(r), "add()", x.add(), fits ? r.lefts.size() - 1 : FULL);
             }
             if (!fits) {
                 r.removeAt(r.lefts.size() - 1);
@@ -640,6 +639,105 @@ public final class RandomRuns {
         }
     }
 
+    /** Says where a text stops being a literal; ended: the text was over before something wrong came. */
+    private static final class Stop extends RuntimeException {
+        private static final long serialVersionUID = 1;
+        final boolean ended;
+        final int index;
+
+        Stop(boolean ended, int index) {
+            this.ended = ended;
+            this.index = index;
+        }
+    }
+
+    private static int expect(String text, int at, String signs) {
+        if (at >= text.length()) {
+            throw new Stop(true, at);
+        }
+        if (signs.indexOf(text.charAt(at)) < 0) {
+            throw new Stop(false, at);
+        }
+        return at + 1;
+    }
+
+    private static int afterTerm(String text, int at) {
+        int next = expect(text, at, "abcdefg");
+        char sign = text.charAt(at);
+        if (sign <= 'e') {
+            return next;
+        }
+        next = afterTerm(text, expect(text, next, "("));
+        if (sign == 'g') {
+            next = afterTerm(text, expect(text, next, ","));
+        }
+        return expect(text, next, ")");
+    }
+
+    /** Goes through a literal; always ends with a Stop, or returns if the whole text is one. */
+    private static void goThroughLiteral(String text) {
+        int sign = afterTerm(text, 0);
+        int at = afterTerm(text, expect(text, sign, "=#<"));
+        if (at == text.length()) {
+            return;
+        }
+        if (text.charAt(sign) != '<') {
+            throw new Stop(false, at);
+        }
+        at = expect(text, at, "+-");
+        expect(text, at, "123456789");
+        for (int i = at; i < text.length(); i++) {
+            expect(text, i, i < at + 6 ? "0123456789" : "");
+        }
+    }
+
+    private static String randomPage() {
+        StringBuilder page = new StringBuilder(randomLiteral(new ArrayList<>(), pick(4), 5, 3));
+        if (pick(3) == 0) {
+            page.append("0123456789".charAt(pick(10))).append(pick(9999999));
+        }
+        for (int edits = pick(3); edits > 0 && page.length() > 0; edits--) {
+            int at = pick(page.length());
+            char sign = "abcdefg(),=#<+-0123456789 hA~".charAt(pick(29));
+            switch (pick(4)) {
+                case 0:
+                    page.setCharAt(at, sign);
+                    break;
+                case 1:
+                    page.insert(at, sign);
+                    break;
+                case 2:
+                    page.deleteCharAt(at);
+                    break;
+                default:
+                    page.setLength(at);
+                    break;
+            }
+        }
+        return page.length() > 40 ? page.substring(0, 40) : page.toString();
+    }
+
+    private static void comparePages(int pages) {
+        int complete = 0;
+        for (int n = 1; n <= pages; n++) {
+            String page = randomPage();
+            int fault = page.length();
+            boolean whole = true;
+            try {
+                goThroughLiteral(page);
+                complete++;
+            } catch (Stop stop) {
+                whole = false;
+                fault = stop.ended ? page.length() : stop.index;
+            }
+            JoinedTheories x = new JoinedTheories();
+            write(x, page);
+            due(-n, List.of(page), "fault()", x.fault(), fault);
+            due(-n, List.of(page), "whether add() is STATE", x.add() == STATE ? 1 : 0, whole ? 0 : 1);
+        }
+        System.out.println(pages + " pages compared, " + complete + " complete");
+    }
+
     public static void main(String[] args) {
         int runs = args.length > 0 ? Integer.parseInt(args[0]) : 800;
         seed = args.length > 1 ? Long.parseLong(args[1]) : 1;
@@ -647,6 +745,7 @@ public final class RandomRuns {
         for (int run = 1; run <= runs; run++) {
             oneRun(run, run % bigEvery == 0 ? 7 : 5 + pick(2));
         }
+        comparePages(20 * runs);
         System.out.println(compared + " states compared, " + unsolvable + " without solution, " + withPairs + " with two pairs");
         System.out.println(wrong == 0 ? "all answers are as due" : wrong + " answers are not as due");
         if (wrong != 0) {
