@@ -99,5 +99,23 @@ final class Promise06 extends Checks {
         due("either(0) without c<b", x.either(0), NONE);
         due("apart(2,0) without c<b", x.apart(2, 0), NONE);
         due("far(2,1) without c<b", x.far(2, 1), NONE);
+
+        // Nothing of g and its second arguments is left when literals without them come in its place.
+        JoinedTheories y = with("g(a,b)=g(c,d)");
+        due("holds() with g", y.holds(), 1);
+        y.drop(0);
+        due("add() of a#a", enter(y, "a#a"), 0);
+        due("holds() of a#a", y.holds(), 0);
+        JoinedTheories z = with("c#e", "g(a,b)=g(c,d)");
+        due("holds() with g", z.holds(), 1);
+        z.drop(1);
+        z.drop(0);
+        enter(z, "d#e");
+        enter(z, "f(a)=d");
+        enter(z, "f(b)=e");
+        due("holds() of f", z.holds(), 1);
+        due("implied(0,1,1) of f", z.implied(0, 1, 1), 1);
+        enter(z, "a=b");
+        due("holds() of f with equal arguments", z.holds(), 0);
     }
 }

@@ -45,6 +45,8 @@ final class Promise12 extends Checks {
         holdsIs(1, "f(a)=f(b)", "a#b");
         holdsIs(0, "f(f(f(a)))=a", "f(f(f(f(f(a)))))=a", "f(a)#a");
         holdsIs(1, "f(a)=b", "f(b)=a", "a#b");
+        holdsIs(1, "a=b", "f(a)<f(b)", "c#f(a)");
+        holdsIs(1, "a=b", "f(a)#c", "f(b)<f(a)");
         holdsIs(1, "f(a)#g(a,a)");
         holdsIs(0, "g(a,b)#g(b,a)", "a=b");
         holdsIs(1, "g(a,b)#g(b,a)", "a<b", "b<a+1");

@@ -25,6 +25,9 @@ final class Promise13 extends Checks {
         JoinedTheories function = with("a=b", "f(a)<f(b)");
         due("apart(5,6) of equal arguments", function.apart(5, 6), 0);
         due("apart(6,5) of equal arguments", function.apart(6, 5), 0);
+        JoinedTheories turned = with("a=b", "f(a)#c", "f(b)<f(a)");
+        due("apart(5,6) of equal arguments, bounded the other way", turned.apart(5, 6), 0);
+        due("apart(6,5) of equal arguments, bounded the other way", turned.apart(6, 5), 0);
         JoinedTheories holes = with("a<b", "b#a", "c#b", "c<b", "b<c+1", "a<c", "c#a");
         due("apart(0,1) with holes", holes.apart(0, 1), -2);
         String[][] arguments = {{"g(a,b)#g(a,c)", "b<c"}, {"g(a,c)#g(a,b)", "b<c"}, {"g(b,a)#g(c,a)", "b<c"}, {"f(c)#f(b)", "b<c"}};
@@ -32,12 +35,24 @@ final class Promise13 extends Checks {
             due("apart(1,2) of " + joined(texts), with(texts).apart(1, 2), -1);
             due("apart(2,1) of " + joined(texts), with(texts).apart(2, 1), NONE);
         }
+        for (String[] texts : arguments) {
+            JoinedTheories narrow = with(texts[0], "b<c+1", "c<b");
+            due("apart(1,2) of " + texts[0] + " b<c+1 c<b", narrow.apart(1, 2), 1);
+            due("apart(2,1) of " + texts[0] + " b<c+1 c<b", narrow.apart(2, 1), -1);
+            narrow = with(texts[0], "b<c+1", "c<b+1");
+            due("apart(1,2) of " + texts[0] + " b<c+1 c<b+1", narrow.apart(1, 2), 1);
+            due("apart(2,1) of " + texts[0] + " b<c+1 c<b+1", narrow.apart(2, 1), 1);
+        }
         // c is a or b, so that f(c) is f(a) or f(b): the greater limit counts.
         JoinedTheories either = with("a<c", "c<b", "b<a+1", "f(a)<e+3", "f(b)<e+7", "d<f(c)");
         due("apart(3,4) of two cases", either.apart(3, 4), 7);
         due("far(3,4) of two cases", either.far(3, 4), NONE);
         JoinedTheories other = with("a<c", "c<b", "b<a+1", "f(a)<e+7", "f(b)<e-3", "d<f(c)");
         due("apart(3,4) of two cases, the first being greater", other.apart(3, 4), 7);
+        JoinedTheories byOne = with("a<c", "c<b", "b<a+1", "f(a)<e+3", "f(b)<e+4", "d<f(c)");
+        due("apart(3,4) of two cases, the second being greater by 1", byOne.apart(3, 4), 4);
+        byOne = with("a<c", "c<b", "b<a+1", "f(a)<e+4", "f(b)<e+3", "d<f(c)");
+        due("apart(3,4) of two cases, the first being greater by 1", byOne.apart(3, 4), 4);
     }
 
     private static void noLimit() {

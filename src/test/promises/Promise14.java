@@ -49,6 +49,16 @@ final class Promise14 extends Checks {
         }
         impliedIs(1, 3, 2, 1, "a<b", "b<a+1", "a<c", "c<b", "d#a", "d#b");
         impliedIs(0, 0, 1, 1, "g(a,c)#g(b,d)");
+        // As many inequalities and pairs with f as there can be.
+        JoinedTheories all = with(
+            "f(a)#f(b)", "f(b)#f(c)", "f(c)#f(d)", "f(d)#f(e)", "f(a)#f(c)", "f(a)#f(d)", "f(a)#f(e)", "f(b)#f(d)", "f(b)#f(e)", "f(c)#f(e)");
+        for (int s = 0; s < 5; s++) {
+            for (int t = 0; t < 5; t++) {
+                due("implied(" + s + "," + t + ",0) of all different", all.implied(s, t, 0), s == t ? 1 : 0);
+                due("implied(" + s + "," + t + ",1) of all different", all.implied(s, t, 1), s == t ? 0 : 1);
+                due("implied(" + s + "," + t + ",2) of all different", all.implied(s, t, 2), s == t ? 1 : 0);
+            }
+        }
     }
 
     private static void atMost() {
