@@ -43,6 +43,19 @@ final class Promise13 extends Checks {
             due("apart(1,2) of " + texts[0] + " b<c+1 c<b+1", narrow.apart(1, 2), 1);
             due("apart(2,1) of " + texts[0] + " b<c+1 c<b+1", narrow.apart(2, 1), 1);
         }
+        // Two paths side by side: d is e plus 5 only where a and b are equal, which the last literals rule out.
+        String[][] ruledOut = {
+            {"a#b"}, {"f(a)#f(b)"}, {"g(a,a)#g(b,b)"}, {"g(a,c)#g(b,c)"}, {"g(c,a)#g(c,b)"},
+            {"d<f(a)+1", "f(a)<e+4", "d<f(b)+2", "f(b)<e+3"}, {"d<g(a,a)+1", "g(a,a)<e+4", "d<g(b,b)+2", "g(b,b)<e+3"}};
+        for (String[] texts : ruledOut) {
+            JoinedTheories paths = with("d<a+2", "a<e+3", "d<b+2", "b<e+3");
+            due("apart(3,4) of two paths", paths.apart(3, 4), 5);
+            for (String text : texts) {
+                enter(paths, text);
+            }
+            due("apart(3,4) of two paths with " + joined(texts), paths.apart(3, 4), 4);
+            due("far(3,4) of two paths with " + joined(texts), paths.far(3, 4), 5);
+        }
         // c is a or b, so that f(c) is f(a) or f(b): the greater limit counts.
         JoinedTheories either = with("a<c", "c<b", "b<a+1", "f(a)<e+3", "f(b)<e+7", "d<f(c)");
         due("apart(3,4) of two cases", either.apart(3, 4), 7);

@@ -49,6 +49,10 @@ final class Promise14 extends Checks {
         }
         impliedIs(1, 3, 2, 1, "a<b", "b<a+1", "a<c", "c<b", "d#a", "d#b");
         impliedIs(0, 0, 1, 1, "g(a,c)#g(b,d)");
+        // c and d could be equal only where a and b are.
+        impliedIs(0, 2, 3, 1, "c<a", "a<d", "c<b", "b<d");
+        impliedIs(1, 2, 3, 1, "c<a", "a<d", "c<b", "b<d", "a#b");
+        impliedIs(1, 2, 3, 1, "c<a", "a<d", "c<b", "b<d", "g(a,e)#g(b,e)");
         // As many inequalities and pairs with f as there can be.
         JoinedTheories all = with(
             "f(a)#f(b)", "f(b)#f(c)", "f(c)#f(d)", "f(d)#f(e)", "f(a)#f(c)", "f(a)#f(d)", "f(a)#f(e)", "f(b)#f(d)", "f(b)#f(e)", "f(c)#f(e)");
