@@ -49,19 +49,22 @@ public final class RecordedStates {
         due(literals, "either(0)", x.either(0), number(shortAnswers[1], solvable ? NONE : STATE));
         due(literals, "either(1)", x.either(1), number(shortAnswers[2], solvable ? NONE : STATE));
         if (solvable) {
-            compareTables(x, literals, parts[2].split(" "), parts[3]);
+            compareTables(x.count(1), literals, parts[2].split(" "), parts[3]);
         }
     }
 
-    private static void compareTables(JoinedTheories x, String literals, String[] apart, String implied) {
-        int terms = x.count(1);
+    /** Each row has an object of its own: nothing is promised about an object after its 512th call. */
+    private static void compareTables(int terms, String literals, String[] apart, String implied) {
         due(literals, "the square of count(1)", (long) terms * terms, apart.length);
-        for (int i = 0; i < apart.length; i++) {
-            int s = i / terms;
-            int t = i % terms;
-            due(literals, "apart(" + s + "," + t + ")", x.apart(s, t), number(apart[i], NONE));
-            for (int sort = 0; sort < 3; sort++) {
-                due(literals, "implied(" + s + "," + t + "," + sort + ")", x.implied(s, t, sort), implied.charAt(i) - '0' >> sort & 1);
+        for (int s = 0; s < terms; s++) {
+            JoinedTheories x = with(literals);
+            for (int t = 0; t < terms; t++) {
+                int cell = s * terms + t;
+                due(literals, "apart(" + s + "," + t + ")", x.apart(s, t), number(apart[cell], NONE));
+                for (int sort = 0; sort < 3; sort++) {
+                    int want = implied.charAt(cell) - '0' >> sort & 1;
+                    due(literals, "implied(" + s + "," + t + "," + sort + ")", x.implied(s, t, sort), want);
+                }
             }
         }
     }
